@@ -20,6 +20,7 @@ public final class CityTest {
         triedBeyond();
         found();
         keptRides();
+        allPlates();
         due.end();
     }
 
@@ -416,5 +417,24 @@ public final class CityTest {
         due.is("its plate", x.rode(299, 1), 3);
         due.is("no more", x.rode(300, 0), PlateHire.NONE);
         due.is("none later", x.found(38, 399, -1, -1, 0), PlateHire.NONE);
+    }
+
+    private static void allPlates() {
+        PlateHire x = cabs(0, 8);
+        for (int p = 8; p < 12; p++) {
+            x.plate(3, 0, 0, 0);
+            x.drive(p, 1, 2 * (p - 8));
+        }
+        for (int p = 0; p < 12; p++) {
+            x.stand(p, 2);
+        }
+        x.ask(0, 2, 11);
+        due.is("rides of twelve", x.tried(0, 1, 0), 11);
+        due.is("rides of none", x.tried(12, 40, 0), 0);
+        due.is("lost by none", x.tried(12, 3, 1), 11);
+        due.is("step(1)", x.step(1), 11);
+        due.is("the last roams", x.count(5), 1);
+        due.is("the last rode", x.rode(10, 1), 10);
+        due.is("ward 2's eleventh ride goes to", x.rode(10, 3), 3);
     }
 }

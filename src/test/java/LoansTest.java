@@ -14,6 +14,7 @@ public final class LoansTest {
         over();
         rescue();
         rescueShares();
+        allLoans();
         due.end();
     }
 
@@ -231,5 +232,23 @@ public final class LoansTest {
         x.loan(0, 0, 3);
         x.loan(0, 0, 3);
         parts(x, "sums of 0", 3, 0, 3, 0, 0, 2, 1);
+    }
+
+    private static void allLoans() {
+        PlateHire x = new PlateHire();
+        x.plate(0, 0, 45, 0);
+        for (int i = 0; i < 30; i++) {
+            x.loan(0, i / 15, 2);
+        }
+        due.is("the last of rank 0", x.part(14, 29), 1);
+        due.is("rank 1 has nothing", x.part(15, 29), 0);
+        due.is("the first of rank 1", x.part(15, 31), 1);
+        due.is("the last of rank 1", x.part(29, 59), 1);
+        due.is("the one ahead of it", x.part(28, 59), 2);
+        due.is("all", x.part(29, 60), 2);
+        due.is("over", x.over(0, 61), 1);
+        due.is("rescue", x.rescue(0, 100, 1, 0), 15);
+        due.is("rank 0 is whole", x.part(14, 60), 2);
+        due.is("rank 1 is half", x.part(29, 60), 1);
     }
 }

@@ -7,6 +7,7 @@ public final class MeterTest {
         feedFull();
         goodLaws();
         faults();
+        faultBehindLongerTape();
         faultKeepsLaw();
         fareRefusals();
         fareClauses();
@@ -103,6 +104,9 @@ public final class MeterTest {
         fault("cap 1;cap", 9);
         fault("cap :", 4);
         fault("cap /", 4);
+        fault("cap 1:", 5);
+        fault("cap 1/", 5);
+        fault("cap 999:", 7);
         String six = "cap 1;cap 1;cap 1;cap 1;cap 1;cap 1";
         fault(six + ";", six.length());
         fault(six + ";cap 1", six.length());
@@ -110,6 +114,19 @@ public final class MeterTest {
         fault("cap 1;cap 1;cap 1;cap 1;cap 1;", 30);
         fault("cap 1" + (char) 0, 5);
         fault("cap 1" + (char) 187, 5);
+    }
+
+    /** What an earlier tape had behind the end of this one is not read. */
+    private static void faultBehindLongerTape() {
+        String whole = "ward 4 12;night 34";
+        for (int length = 0; length < whole.length(); length++) {
+            PlateHire x = new PlateHire();
+            due.is("the whole", Due.law(x, whole), 2);
+            boolean good = length >= 8 && length <= 9;
+            boolean alsoGood = length == 17;
+            int want = good ? 1 : alsoGood ? 2 : -10 - length;
+            due.is("the first " + length + " bytes", Due.law(x, whole.substring(0, length)), want);
+        }
     }
 
     private static void faultKeepsLaw() {

@@ -14,6 +14,7 @@ public final class PlatesTest {
         fillOrder();
         fillFirstTen();
         fillNobody();
+        fillAgain();
         due.end();
     }
 
@@ -202,6 +203,10 @@ public final class PlatesTest {
         x = withPlates(1, 2, 0);
         due.is("any goes where the other would not", x.fill(), 4);
         shifts(x, "any", 1, 0);
+
+        x = withPlates(1, 1, 2, 2);
+        due.is("more drivers than shifts", x.fill(), 4);
+        shifts(x, "more drivers than shifts", 1, 0);
     }
 
     private static void fillOrder() {
@@ -243,5 +248,31 @@ public final class PlatesTest {
         shifts(x, "nobody is behind all", 1, 0, -1, -1, -1, -1);
         due.is("no plates", withPlates(0, 0, 1).fill(), 0);
         due.is("no drivers", withPlates(2).fill(), 0);
+    }
+
+    /** What one filling left over is counted anew by the next one. */
+    private static void fillAgain() {
+        for (int wish = 0; wish < 3; wish++) {
+            PlateHire x = withPlates(1, wish, wish, wish, wish);
+            due.is("two of four, wish " + wish, x.fill(), wish == 2 ? 4 : 3);
+            shifts(x, "two of four", 0, 1);
+            x.plate(0, 0, 0, 0);
+            x.drive(1, 0, 2);
+            x.drive(1, 1, 3);
+            x.plate(0, 0, 0, 0);
+            int open = wish == 1 ? 1 : 0;
+            x.driver(2);
+            x.drive(2, 1 - open, 4);
+            x.driver(1 - open);
+            due.is("one who wishes another shift, behind wish " + wish, x.fill(), 1);
+            due.is("has it all the same", x.about(2, 2 + open), 5);
+        }
+        PlateHire x = withPlates(1, 1, 1, 1, 1);
+        x.fill();
+        x.plate(0, 0, 0, 0);
+        x.plate(0, 0, 0, 0);
+        x.plate(0, 0, 0, 0);
+        due.is("two nights of three", x.fill(), 4);
+        shifts(x, "two nights of three", 0, 1, -1, 2, -1, 3, -1, -1);
     }
 }
