@@ -3,9 +3,10 @@ import java.util.Random;
 /** All promises: long runs of calls, each answer compared with the one of the slow model. */
 public final class ModelTest {
     private static final Due due = new Due("model");
-    private static final int CALLS = 512;
 
     private final Random random;
+    /** How many calls of the 512 that an object is good for are left. */
+    private int left = 512;
     private final PlateHire x = new PlateHire();
     private final SlowHire y = new SlowHire();
     private final String name;
@@ -16,13 +17,15 @@ public final class ModelTest {
     }
 
     public static void main(String[] args) {
-        for (long seed = 0; seed < 400; seed++) {
+        for (long seed = 0; seed < 800; seed++) {
             ModelTest run = new ModelTest(seed);
             run.found();
-            for (int i = 0; i < CALLS; i++) {
+            // one of these may feed a law byte by byte: some hundred calls
+            int looks = 110 + run.random.nextInt(150);
+            while (run.left > looks) {
                 run.anyCall();
             }
-            run.lookAtAll();
+            run.lookAround();
         }
         due.end();
     }
@@ -38,6 +41,7 @@ public final class ModelTest {
     }
 
     private void is(String call, int got, int want) {
+        left--;
         due.is(name + call, got, want);
     }
 
@@ -215,18 +219,19 @@ public final class ModelTest {
         }
     }
 
-    private void lookAtAll() {
+    /** All counts and spreads, and then anything at all until the last call. */
+    private void lookAround() {
         for (int what = 0; what <= 10; what++) is("at the end count " + what, x.count(what), y.count(what));
-        for (int p = 0; p < y.count(0); p++) {
-            for (int what = 0; what < 8; what++) is("at the end about " + p + " " + what, x.about(p, what), y.about(p, what));
-            is("at the end owes " + p, x.owes(p), y.owes(p));
-        }
-        for (int d = 0; d < y.count(1); d++) {
-            for (int what = 0; what < 3; what++) is("at the end driven " + d + " " + what, x.driven(d, what), y.driven(d, what));
-        }
-        for (int k = 0; k < y.count(10); k++) {
-            for (int what = 0; what < 5; what++) is("at the end rode " + k + " " + what, x.rode(k, what), y.rode(k, what));
-        }
         for (int what = 0; what < y.count(8) + 2; what++) is("at the end spread " + what, x.spread(what), y.spread(what));
+        while (left > 0) {
+            int p = some(0, y.count(0) - 1), d = some(0, y.count(1) - 1), k = some(0, y.count(10) - 1);
+            int what = random.nextInt(8);
+            switch (random.nextInt(4)) {
+                case 0: is("at the end about " + p + " " + what, x.about(p, what), y.about(p, what)); break;
+                case 1: is("at the end driven " + d + " " + what, x.driven(d, what), y.driven(d, what)); break;
+                case 2: is("at the end rode " + k + " " + what, x.rode(k, what), y.rode(k, what)); break;
+                default: is("at the end owes " + p, x.owes(p), y.owes(p)); break;
+            }
+        }
     }
 }
