@@ -53,7 +53,12 @@ public final class Promise09LawTest {
         fault(SIX + "2345", 38);
         fault(SIX + " ;", 35);
         fault("cap 1;cap 1;cap 1;cap 1;cap 1;", 30);
-        due.is("five and then the sixth", Town.law(new PlateHire(), SIX), 6);
+        String longest = "ward 0 1234;ward 1 1234;ward 2 1234;ward 3 1234;ward 4 1234;ward 0 1234";
+        good(longest, 6);
+        fault(longest + ";", 71);
+        fault(longest + "5", 71);
+        fault(longest + ";".repeat(49), 71);
+        good(longest.substring(0, 70), 6);
     }
 
     private static void words() {

@@ -11,6 +11,7 @@ public final class Promise22PartTest {
         oneMoreEach();
         noneMoreThanItsSum();
         eachOnItsOwnPlate();
+        whateverWasAskedBefore();
         greatNumbers();
         allLoans();
         due.end();
@@ -131,6 +132,24 @@ public final class Promise22PartTest {
         parts(x, "each on its own plate", 12, 10, 10, 2);
         due.is("asking changes nothing", x.owes(0), 20);
         due.is("asking changes nothing", x.owes(1), 10);
+    }
+
+    /** Nothing of an earlier, greater sum is left in a smaller one's parts. */
+    private static void whateverWasAskedBefore() {
+        due.says("What a LOAN would have of a sum (0 .. 999999) that is PARTED among its PLATE's. NONE; BAD.");
+        for (int size = 1; size <= 3; size++) {
+            PlateHire x = loans(0, size, 5, size, 9, size);
+            for (int sum = 3 * size; sum >= 0; sum--) {
+                parts(x, "of " + 3 * size, 3 * size, size, size, size);
+                int second = Math.max(0, Math.min(size, sum - size));
+                parts(x, "then of less", sum, Math.min(size, sum), second, Math.max(0, sum - 2 * size));
+            }
+        }
+        PlateHire x = Town.owing(1, 1);
+        due.is("of 5", x.part(0, 5), 1);
+        due.is("the other plate's of 0", x.part(1, 0), 0);
+        due.is("of 0", x.part(0, 0), 0);
+        due.is("the other plate's of 1", x.part(1, 1), 1);
     }
 
     private static void greatNumbers() {
