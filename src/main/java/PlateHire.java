@@ -1222,9 +1222,12 @@ public final class PlateHire {
             return NONE;
         }
 
+        /** A plate is in the line once at most, so there is room; looked at all the same, as the row is used. */
         int append(int p) {
-            row[size] = p;
-            size++;
+            if (size < MOST_PLATES) {
+                row[size] = p;
+                size++;
+            }
             return size;
         }
 
